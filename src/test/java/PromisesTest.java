@@ -135,6 +135,8 @@ public final class PromisesTest {
       due("letters", x.count(7), 0);
     }
     due("a number told with a 0 ahead", value(x, "05") + x.part(0, 1), 6);
+    value(x, "5");
+    due("a digit behind a digit", value(x, "6") + x.part(0, 1), 7);
     StringBuilder b = new StringBuilder();
     for (int k = 0; k < 96; k++) {
       b.append(k < 95 ? '[' : '(');
@@ -171,6 +173,13 @@ public final class PromisesTest {
     for (int k = 0; k < good.length; k++) {
       due("check " + good[k], check(x, good[k]), sizes[k]);
       due("checks", x.count(1), sizes[k]);
+    }
+    value(x, "(b1a1)");
+    for (int k = 0; k < 30; k++) {
+      due("check told again", check(x, "{a*b*<ab=ba}"), 3);
+      due("faults told again", found(x), "2:8 |1");
+      due("check in its place", check(x, "{a*b*}"), 3);
+      due("faults by that", found(x), "|0");
     }
     StringBuilder b = new StringBuilder();
     for (int k = 0; k < 48; k++) {
@@ -216,6 +225,9 @@ public final class PromisesTest {
   private static void dependents() {
     finds("{a*b*<ab}", "(a1b2)", "|0");
     finds("{a*b*<ab}", "(a2b2)", "2:8 |0");
+    finds("{a{a*b*<ab}b*c*=bc<cb}", "(a(a2b1)b1c2)", "12:8 3:9 |1");
+    finds("{a*b*=ab=ab=ab=ab=ab=ab=ab=ab=ab=ab=ab=ab=ab=ab=ab=ab=ab=ab=ab=ab=ab=ab=ab=ab=ab=ab=ab=ab=ab<ab}",
+        "(a1b1)", "2:8 |0");
     finds("{a*b*<ab}", "(b1a1)", "2:8 |0");
     finds("{a*b*<ba}", "(a1b2)", "1:8 |0");
     finds("{a*b*<ab}", "(a(c1)b[1,2])", "|0");
@@ -345,6 +357,16 @@ public final class PromisesTest {
     due("then", shown(x, 0), "?");
     due("size", x.count(0), 1);
     due("refused", x.count(11) + " " + x.count(14) + " " + x.count(16), "4 1 1");
+    x = with("(a[1,2]b3)", "*");
+    x.puts(1, 3);
+    due("the same then", x.same(1, 2), 1);
+    x.drops(1);
+    value(x, "(a7b?)");
+    x.drops(1);
+    due("the same then", x.same(1, 2), 1);
+    x = with("[(a1b2),[3]]", "*");
+    x.puts(6, 0);
+    due("how many behind it", x.part(7, 1), 1);
     x = with("[[1,[2,3]],[4]]", "*");
     due("puts at 67", x.puts(67, 8), 3);
     due("then", shown(x, 0) + x.part(0, 2) + x.part(6, 2), "[[1,8],[4]]63");
@@ -378,6 +400,9 @@ public final class PromisesTest {
     due("below -1", x.below(-1), -4);
     due("below 100000", x.below(100000), -6);
     due("refused", x.count(14) + " " + x.count(16), "1 1");
+    due("coded at once", with("9", "#0001").coded(3), 1);
+    due("below at once", with("9", "#0001").below(0), 1);
+    due("waiting at once", with("9", "&#0001").count(5), 1);
     due("waits", with("(a9b1)", "&{a#0005b*<ab=ab}").waits(), 3);
     due("waits by none", with("(a9b1)", "*").waits(), 0);
   }
@@ -404,6 +429,8 @@ public final class PromisesTest {
 
   private static void promise16to19() {
     due("total", with(WHOLE, "*").total(), 18);
+    due("total of one", with("5", "*").total(), 5);
+    due("the same, four digits deep", with("[[[[1]]]]", "*").same(0, 0), 1);
     due("total of no numbers", with("[?,()]", "*").total(), 0);
     due("total with a fault", with(WHOLE, "{.a*.b*}").total(), -9);
     GathersAllFaults x = with("[(a1b[2,?]),(b[2,?]a1),2,(a1b[?,2])]", "*");
@@ -482,6 +509,8 @@ public final class PromisesTest {
     due("range 1 2", x.range(1, 2), -2);
     due("range 1 -1", x.range(1, -1), -2);
     due("refused", x.count(11) + " " + x.count(12), "1 2");
+    due("just 99", with("(a5b9)", "{a#9999b*}").range(1, 0), 99);
+    due("just 0", with("(a5b9)", "{a#0000b*}").range(1, 1), 0);
     x = with("(a5b9)", "{a*b*<ab}");
     due("dependent, other", x.range(2, 0), 6);
     due("dependent, other", x.range(2, 1), 99);
