@@ -216,7 +216,7 @@ public final class GathersAllFaults {
     if (one < 0 || other < 0) {
       return refuse(NOBODY);
     }
-    return now.alike(one, other, 0) ? 1 : 0;
+    return now.alike(one, other) ? 1 : 0;
   }
 
   public int different() {
@@ -487,7 +487,7 @@ public final class GathersAllFaults {
 
   private int firstAlike(int part) {
     for (int p = 0; p < part; p++) {
-      if (now.alike(p, part, 0)) {
+      if (now.alike(p, part)) {
         return p;
       }
     }
@@ -497,7 +497,7 @@ public final class GathersAllFaults {
   private int countAlike(int part) {
     int many = 0;
     for (int p = 0; p < now.size; p++) {
-      if (now.alike(p, part, 0)) {
+      if (now.alike(p, part)) {
         many++;
       }
     }
@@ -593,7 +593,7 @@ public final class GathersAllFaults {
 
     Tree() {
       size = 1;
-      span[0] = 1;
+      set(span, 0, 1);
     }
 
     void take(Tree other) {
@@ -711,7 +711,11 @@ public final class GathersAllFaults {
       size -= gap;
     }
 
-    boolean alike(int a, int b, int depth) {
+    boolean alike(int a, int b) {
+      return alikeBelow(a, b, 0);
+    }
+
+    private boolean alikeBelow(int a, int b, int depth) {
       if (depth > DIGITS || at(kind, a) != at(kind, b) || at(num, a) != at(num, b)
           || at(kids, a) != at(kids, b) || at(span, a) != at(span, b)) {
         return false;
@@ -720,7 +724,7 @@ public final class GathersAllFaults {
       int c = a + 1;
       for (int k = 0; k < many; k++) {
         int twin = child(b, at(digit, c));
-        if (twin < 0 || !alike(c, twin, depth + 1)) {
+        if (twin < 0 || !alikeBelow(c, twin, depth + 1)) {
           return false;
         }
         c += at(span, c);
@@ -759,8 +763,8 @@ public final class GathersAllFaults {
 
     Plan() {
       size = 1;
-      sign[0] = '*';
-      span[0] = 1;
+      set(sign, 0, '*');
+      set(span, 0, 1);
     }
 
     void take(Plan other) {
@@ -1019,7 +1023,7 @@ public final class GathersAllFaults {
         if (!tree.less(one, other)) {
           add(at(tree.road, other), 8);
         }
-      } else if (!tree.alike(one, other, 0)) {
+      } else if (!tree.alike(one, other)) {
         add(at(tree.road, other), 9);
       }
     }
@@ -1038,7 +1042,7 @@ public final class GathersAllFaults {
         int element = tree.child(part, 6 + k);
         boolean twin = false;
         for (int e = 0; e < k && !twin; e++) {
-          twin = tree.alike(tree.child(part, 6 + e), element, 0);
+          twin = tree.alike(tree.child(part, 6 + e), element);
         }
         if (twin) {
           add(at(tree.road, element), 12);

@@ -92,7 +92,7 @@ public final class LanguageTest {
     Matcher index = Pattern.compile("\\b\\w+\\[[^\\]]+\\]").matcher(bare);
     while (index.find()) {
       String at = index.group();
-      holds("7: " + at, at.matches("int\\[[A-Z]+\\]|int\\[7\\]|row\\[i\\]|span\\[0\\]|sign\\[0\\]"));
+      holds("7: " + at, at.matches("int\\[[A-Z]+\\]|int\\[7\\]|row\\[i\\]"));
     }
     for (String line : bare.split("\n")) {
       boolean field = line.matches("  (  )?(private |final )+\\S+ \\w+ = new .*;");
