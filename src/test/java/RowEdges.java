@@ -276,6 +276,28 @@ final class RowEdges extends Edges {
     due("-5 is told by none", x.count(15), 0);
   }
 
+  @Says("An object is used for at most 512 calls after it has been made")
+  @Broken(in = "private int refuse(int code) {", find = "at(refusals, -code) + 1", put = "at(refusals, -code) + 1 & 255")
+  @Broken(in = "public final class GathersAllFaults {", find = "FAULTS = 6144", put = "FAULTS = 20")
+  static void promise32_512Calls() {
+    GathersAllFaults x = new GathersAllFaults();
+    for (int k = 1; k <= 511; k++) {
+      due("refusal " + k, x.letter(256), -6);
+    }
+    due("refusals", x.count(16), 511);
+    x = with("[[[[1,1,1,1],[1,1,1,1],[1,1,1,1]]]]", "/@33&&&&&&&&&&&&&&&&^@04/^^");
+    String found = found(x);
+    int waits = x.waits();
+    long mend = x.mend(0);
+    due("faults", x.faults(), 12);
+    for (int k = 0; k < 379; k++) {
+      due("mend " + k, x.mend(k % 2), k % 2 == 0 ? mend : 1);
+    }
+    due("found", found(x), found);
+    due("waiting", x.waits(), waits);
+    due("the last call", x.count(2), 12);
+  }
+
   @Says("-9 for another what")
   @Broken(in = "public int count(int what) {", find = "what >= 11", put = "what >= 10")
   @Broken(in = "public int count(int what) {", find = "what <= 16", put = "what <= 17")
