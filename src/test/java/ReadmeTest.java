@@ -24,7 +24,6 @@ public final class ReadmeTest {
   private static final String TESTS = "How to run its tests";
   private static final String MAIN = "  public static void main(String[] args) {";
   private static final Pattern ANSWERED = Pattern.compile("(x\\.\\w+\\(.*\\));\\s*// (-?\\d+)(: .+)?");
-
   private static final Pattern PLAIN =
       Pattern.compile("GathersAllFaults x = new GathersAllFaults\\(\\);|tell\\(x, \"[^\"]+\"\\);");
 
